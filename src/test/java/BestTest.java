@@ -184,6 +184,22 @@ public final class BestTest {
         Checks.due("keeper(1, 0)", x.keeper(1, 0), 1);
         Checks.due("keeper(1, 1)", x.keeper(1, 1), 80);
         Checks.due("weights are as they were", x.told(1, 1), 20);
+        // weights that were only thought of are forgotten
+        x.drawn(3, 5);
+        Checks.due("keeper(1, 0) behind drawn()", x.keeper(1, 0), 1);
+        Checks.due("keeper(1, 1) behind drawn()", x.keeper(1, 1), 80);
+        x.force(0);
+        Checks.due("heaviest(1, 0, 999), none", x.heaviest(1, 0, 999), NONE);
+        x.force(1);
+        Checks.due("keeper(1, 0) behind heaviest()", x.keeper(1, 0), 1);
+        x.chance(3, 5, 0);
+        Checks.due("heaviest(2, 1, 999) behind chance()", x.heaviest(2, 1, 999), 25);
+        x.set(3, 1, 1);
+        Checks.due("keeper(1, 0), the first", x.keeper(1, 0), 1);
+        x.set(1, 0, 30);
+        Checks.due("keeper(1, 0), the first", x.keeper(1, 0), 0);
+        Checks.due("keeper(1, 1), the first", x.keeper(1, 1), 70);
+        x.set(3, 1, 4);
         // told it makes SOLES last: no weight less is more
         x.set(4, 0, 6);
         x.set(4, 1, 4);

@@ -141,6 +141,13 @@ public final class DaysTest {
         Checks.due("run(0, 40, 1)", x.run(0, 40, 1), 24);
         Checks.due("run(0, 40, 2)", x.run(0, 40, 2), 0);
 
+        // a SAILOR who brings nothing along is never STOPPED, and lasts as long as DAY tells
+        x.walker(1, 0, 0);
+        Checks.rule(x, "day", "day", "day");
+        Checks.due("run(1, 1, 0)", x.run(1, 1, 0), 0);
+        Checks.due("run(1, 5, 0)", x.run(1, 5, 0), 4);
+        Checks.due("run(1, 5, 1)", x.run(1, 5, 1), NONE);
+
         // the rule that tells of DAY is not THE RULE of one that does not
         x.force(0);
         Checks.due("run(0, 40, 0)", x.run(0, 40, 0), 5);

@@ -272,6 +272,8 @@ public final class StepsToldTest {
         Checks.due("chance(0, 21, 0)", x.chance(0, 21, 0), NO);
         Checks.due("chance(0, 1, 2)", x.chance(0, 1, 2), NO);
         Checks.due("chance(0, 1, -1)", x.chance(0, 1, -1), NO);
+        Checks.rule(x, "99", "1", "0");
+        Checks.due("chance(0, 20, 0) of none, by another RULE", x.chance(0, 20, 0), 1);
         // in SOCKS behind the tenth DAY, not behind an eleventh
         x.walker(0, 0, 0);
         Checks.rule(x, "10", "1", "0");
@@ -286,7 +288,7 @@ public final class StepsToldTest {
         Checks.rule(x, "99", "1", "day = 10");
         Checks.due("chance(0, 4, 0)", x.chance(0, 4, 0), 0);
         // each of them
-        x.force(1);
+        x.force(2);
         x.walker(5, 1, 0);
         Checks.due("chance(0, 4, 0)", x.chance(0, 4, 0), 0);
         x.set(2, 1, 9);
@@ -316,6 +318,9 @@ public final class StepsToldTest {
         x.force(0);
         x.walker(4, 9, 255);
         x.walker(1, 9, 255);
+        x.set(4, 2, 255);
+        x.set(5, 2, 77);
+        x.set(6, 2, 88);
         Checks.text(x, "lasts 1;paces 2;stops 3;");
         x.feed('l');
         x.sheet(0, 2, 3);
@@ -339,6 +344,8 @@ public final class StepsToldTest {
         Checks.due("walker(0, 1, 2)", x.walker(0, 1, 2), 2);
         Checks.due("told(2, 7)", x.told(2, 7), 0);
         Checks.due("told(2, 4)", x.told(2, 4), 0);
+        Checks.due("told(2, 5)", x.told(2, 5), 0);
+        Checks.due("told(2, 6)", x.told(2, 6), 0);
         // THE IMAGE stands yet
         x.day();
         x.mend(1);
@@ -382,6 +389,10 @@ public final class StepsToldTest {
         Checks.due("count(6)", x.count(6), 1);
         Checks.due("count(3)", x.count(3), 3);
         Checks.due("count(2)", x.count(2), 1);
+        Checks.due("text() of no letters", x.text(), -100);
+        Checks.rule(x, "0", "0", "1");
+        Checks.due("count(2), of WALKERS alone", x.count(2), 3);
+        Checks.due("count(3), of WALKERS alone", x.count(3), 3);
         Checks.due("count(7)", x.count(7), BAD);
         Checks.due("count(-1)", x.count(-1), BAD);
     }

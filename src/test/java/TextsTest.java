@@ -8,6 +8,7 @@ public final class TextsTest {
         promise6Values();
         promise6Faults();
         promise6Open();
+        promise6Again();
         promise7();
         Checks.end();
     }
@@ -116,6 +117,11 @@ public final class TextsTest {
         value("day\n\n*\n worn", 42);
         value("12-worn", 5);
         value("9999*9999*9999 < 0", 1);
+        // as much waits for what is read last as ever can: each comes to 1 + 1 * .. or 0
+        String wait = "0or 1and 1<1+1*";
+        value(wait + "(" + wait + "(" + wait + "(" + wait + "(" + wait + "(" + wait + "1)))))", 1);
+        wait = "0or 1and 1<0+1*";
+        value(wait + "(" + wait + "(" + wait + "(" + wait + "(" + wait + "(" + wait + "7)))))", 0);
         // -2^31 is its own opposite: 2048 * 2048 * 512
         value("(- (2048*2048*512) < 0) + (2048*2048*512 < 0)", 2);
         value("2048*2048*512 = 2048*2048*512 * 3", 1);
@@ -166,6 +172,8 @@ public final class TextsTest {
         fault("lasts 1234^told");
         fault("lasts ^sock;");
         fault("lasts ^tolds;");
+        fault("lasts ^toldz;");
+        fault("lasts ^atold;");
         fault("lasts ^tol;");
         fault("lasts ^Told;");
         fault("lasts told^T;");
@@ -228,6 +236,26 @@ public final class TextsTest {
         fine("lasts -((((1 - 1))));paces 1;stops 1;");
         fine("lasts (((((1)))));paces (((((1)))));stops - - - - - 1;");
         fault("lasts (not (not 1) or not (not -^-1));");
+    }
+
+    private static void promise6Again() {
+        Checks.begin("promise 6, behind a FAULT");
+        // nothing of what was read ahead of it is left
+        SolesByWhatIsTold x = new SolesByWhatIsTold();
+        x.walker(0, 0, 0);
+        Checks.due("text()", Checks.text(x, "lasts 9 + day * (((((1 + ("), -125);
+        Checks.due("text()", Checks.text(x, "lasts (((((77)))));paces 8;stops 0;"), 1);
+        x.force(1);
+        Checks.due("told(0, 10)", x.told(0, 10), 77);
+        Checks.due("told(0, 11)", x.told(0, 11), 8);
+        Checks.due("run(0, 40, 0)", x.run(0, 40, 0), 77);
+        Checks.due("text()", Checks.text(x, "lasts 9;paces 3;stops 1 or"), -126);
+        Checks.due("text()", Checks.text(x, "lasts - - - - - - 1;"), -116);
+        Checks.due("text()", Checks.text(x, "lasts 6;paces 5;stops 0;"), 2);
+        x.force(2);
+        Checks.due("told(0, 10)", x.told(0, 10), 6);
+        Checks.due("told(0, 11)", x.told(0, 11), 5);
+        Checks.due("told(0, 12)", x.told(0, 12), 0);
     }
 
     /** The mark ^ stands where the FAULT is. */
