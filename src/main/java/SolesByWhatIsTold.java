@@ -1183,7 +1183,7 @@ public final class SolesByWhatIsTold {
             switch (kind) {
                 case SAILOR: return ofSailor;
                 case BRIDE: return v + 2;
-                case DESERTER: return bounded(ofSailor, MOST_PACES) + 3;
+                case DESERTER: return ofSailor + 3;
                 case BISHOP: return 1;
                 case DOG: return number;
                 default: return v;
