@@ -4,6 +4,8 @@ import java.util.Random;
 public final class RandomRunsTest {
     private static final int RUNS = 120;
     private static final int CALLS = 512;
+    /** The most calls that one pick makes, but for texts. */
+    private static final int PICK = 13;
     private static final int[] ODD = {-1, -2, 0, 1, 40, 41, 255, 256, 999, 1000, 9999, 10000,
         Integer.MAX_VALUE, Integer.MIN_VALUE, 65536, -65536, 128, 127};
 
@@ -32,7 +34,7 @@ public final class RandomRunsTest {
         for (int t = 0; t < 8; t++) {
             set(1, t, random.nextInt(small ? 6 : 40));
         }
-        while (calls < CALLS && Checks.wrong() == 0) {
+        while (calls + PICK <= CALLS && Checks.wrong() == 0) {
             int pick = random.nextInt(100);
             if (pick < 2 && calls < CALLS - 170) {
                 feedText();
