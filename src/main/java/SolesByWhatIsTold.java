@@ -861,7 +861,7 @@ public final class SolesByWhatIsTold {
             if (size < steps.length) {
                 steps[size] = step;
                 size++;
-                tellsDay |= step == OP_DAY;
+                tellsDay = tellsDay || step == OP_DAY;
             }
         }
 

@@ -22,6 +22,7 @@ public final class LanguageTest {
         String source = Files.readString(Path.of("src/main/java/SolesByWhatIsTold.java"));
         face();
         words(source);
+        booleans(source);
         methods(source);
         Checks.end();
     }
@@ -92,6 +93,16 @@ public final class LanguageTest {
             String line = made.group().trim();
             Checks.yes("made in a constructor: " + line, line.contains("final ") || line.matches("\\w+\\[i\\] = new \\w+\\(\\);")
                 || line.equals("thought = new Thought(texts[0]);"));
+        }
+    }
+
+    /** Rule 10 names shifts and masks over int and long alone; of booleans && and || are fine. */
+    private static void booleans(String source) {
+        Checks.begin("rule 10");
+        Matcher named = Pattern.compile("\\bboolean (\\w+)( =|;|,|\\))").matcher(source);
+        while (named.find()) {
+            String name = named.group(1);
+            Checks.yes("no mask of boolean " + name, !Pattern.compile("\\b" + name + " [|&^]=?[^|&]").matcher(source).find());
         }
     }
 

@@ -9,8 +9,8 @@ import java.util.regex.Matcher;
 import java.util.regex.Pattern;
 
 /**
- * The document once more, written as slowly and as plainly as can be, and in other ways than the
- * class: KINDS are classes, TEXTS are evaluated token by token, no answer is kept for another.
+ * The document once more, written as plainly as can be, and in other ways than the class: KINDS are
+ * classes, TEXTS are evaluated token by token, no STEP that was walked to is kept for another.
  */
 final class Model {
     static final long NO = -(1L << 62);
@@ -551,12 +551,16 @@ final class Model {
             return -2;
         }
         List<Integer> sets = subsets(ones.get(one).ties);
+        int[] steps = new int[256];
+        for (int bits : sets) {
+            steps[bits] = tell(one, bits).after(n).step;
+        }
         sets.sort((a, b) -> {
-            int byStep = tell(one, b).after(n).step - tell(one, a).after(n).step;
+            int byStep = steps[b] - steps[a];
             int byWeight = tell(one, a).weight(true) - tell(one, b).weight(true);
             return byStep != 0 ? byStep : byWeight != 0 ? byWeight : a - b;
         });
-        return what == 0 ? sets.get(0) : tell(one, sets.get(0)).after(n).step;
+        return what == 0 ? sets.get(0) : steps[sets.get(0)];
     }
 
     int least(int one, int k, int what) {
@@ -592,11 +596,18 @@ final class Model {
         if (!in(k, 999) || !in(what, 1)) {
             return -2;
         }
+        List<One> all = new ArrayList<>();
+        for (int i = 0; i < ones.size(); i++) {
+            all.add(look(i));
+        }
         for (int n = 0; n <= 40; n++) {
-            for (int i = 0; i < ones.size(); i++) {
-                if (look(i).after(n).step >= k) {
+            for (int i = 0; i < all.size(); i++) {
+                if (all.get(i).step >= k) {
                     return what == 0 ? i : n;
                 }
+            }
+            for (One one : all) {
+                one.pass();
             }
         }
         return -1;
@@ -657,8 +668,10 @@ final class Model {
     }
 
     private static int otherwise(Object row, One one) {
+        One walks = one.copy();
         for (int i = 0; i < length(row); i++) {
-            if (one.after(i + 1).step != item(row, i)) {
+            walks.pass();
+            if (walks.step != item(row, i)) {
                 return i;
             }
         }
@@ -682,7 +695,7 @@ final class Model {
             return -11;
         }
         List<Integer> sets = subsets(ones.get(one).ties);
-        sets.removeIf(b -> otherwise(row, tell(one, b)) >= 0);
+        sets.removeIf(b -> what < 3 || what > 4 || otherwise(row, tell(one, b)) >= 0);
         List<Integer> steps = new ArrayList<>();
         for (int s = 0; s < 1000 && what > 5; s++) {
             One o = look(one);

@@ -52,14 +52,13 @@ public final class RoomTest {
     /** Bytes a call, told of 512 calls; what the machine itself makes now and then is left out by five tries. */
     private static void none(String name, long most, IntConsumer call) {
         ThreadMXBean threads = (ThreadMXBean) ManagementFactory.getThreadMXBean();
-        long id = Thread.currentThread().getId();
         long least = Long.MAX_VALUE;
         for (int t = 0; t < 5; t++) {
-            long before = threads.getThreadAllocatedBytes(id);
+            long before = threads.getCurrentThreadAllocatedBytes();
             for (int i = 0; i < 512; i++) {
                 call.accept(i);
             }
-            least = Math.min(least, (threads.getThreadAllocatedBytes(id) - before) / 512);
+            least = Math.min(least, (threads.getCurrentThreadAllocatedBytes() - before) / 512);
         }
         Checks.yes(name + " makes at most " + most + " bytes a call: " + least, least <= most);
     }
